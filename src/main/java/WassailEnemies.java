@@ -836,7 +836,7 @@ public final class WassailEnemies {
       return hater >= 0 && hater < haterCount;
     }
 
-    /** The places are used again behind an undo(): so all that is a HATER's is set anew. */
+    /** A place may have been another one's ahead of an undo(), so all that is a HATER's is set. */
     int welcome(Hater hater, int dislike) {
       int h = haterCount;
       haters[h] = hater;

@@ -161,6 +161,13 @@ public final class OrchardTest {
     Due.is("a seventh, faulty: orchard()", Due.orchard(x, "??"), FULL);
     Due.is("the text stays: count(5)", x.count(5), 8);
     Due.is("told(1)", x.told(1), 5);
+    WassailEnemies again = new WassailEnemies();
+    again.hater(0, 0, 30);
+    Due.is("orchard()", Due.orchard(again, "hot 9 p=0;hot 9 p=1"), 0);
+    Due.is("orchard()", Due.orchard(again, "hot 1 p=0;hot 1 p=0;cold 3 h=3;x"), -10 - 31);
+    Due.is("orchard()", Due.orchard(again, "hot 1 p=0"), 1);
+    Due.is("nothing is left of those before: of(0, 20)", again.of(0, 20), 31);
+    Due.is("nothing is left of THE TEXT before: orchard()", Due.orchard(again, "hot 1 "), -10 - 6);
   }
 
   /** Whether E holds for a HATER with this kind, v and hate as number p at a TREE in a YEAR. */
@@ -258,6 +265,19 @@ public final class OrchardTest {
     Due.is("ring(1)", all.ring(1), 1584);
   }
 
+  /** Six HATERS who bear anywhere: five still bear without any of them. */
+  private static void five() {
+    WassailEnemies x = new WassailEnemies();
+    for (int p = 0; p < 6; p++) {
+      x.hater(0, 0, 50);
+    }
+    Due.is("told(5)", x.told(5), 0);
+    Due.is("told(6)", x.told(6), 5);
+    x.leave(0, true);
+    Due.is("told(5)", x.told(5), 1);
+    Due.is("told(6)", x.told(6), 4);
+  }
+
   private static void told() {
     WassailEnemies x = Due.under("need 30;wear 4");
     x.hater(0, 0, 30);
@@ -315,6 +335,8 @@ public final class OrchardTest {
     Due.is("told(6)", x.told(6), 0);
     x.leave(1, true);
     Due.is("all are gone: told(5)", x.told(5), ABSENT);
+    Due.is("all are gone: count(0)", x.count(0), 3);
+    five();
     Due.is("all are gone: told(6)", x.told(6), ABSENT);
   }
 }

@@ -89,6 +89,12 @@ public final class PlanTest {
     for (int what : new int[] {-1, 2, MIN, MAX}) {
       Due.is("ends(" + what + ")", x.ends(what), NONE);
     }
+    WassailEnemies back = new WassailEnemies();
+    back.hater(0, 0, 1);
+    back.image();
+    back.hater(0, 0, 50);
+    back.undo();
+    ends("one who came behind THE IMAGE does not count", back, 0, 5);
   }
 
   private static void endsByLeaders() {
@@ -150,5 +156,8 @@ public final class PlanTest {
     Due.is("3 has not 3: looked()", x.looked(), 2);
     x.pass(1);
     Due.is("3 has not 2: looked()", x.looked(), 0);
+    x.book(-1, 0);
+    x.book(3, 3);
+    Due.is("rows from before do not count: looked()", x.looked(), ABSENT);
   }
 }

@@ -207,6 +207,8 @@ public final class SeenTest {
     fraction("128 by 6", x.mean(1, 0), x.mean(1, 1), 64, 3);
     x.hate(4, 1, 3);
     fraction("129 by 6", x.mean(1, 0), x.mean(1, 1), 43, 2);
+    x.hate(0, 1, 3);
+    fraction("132 by 6", x.mean(1, 0), x.mean(1, 1), 22, 1);
     for (int bad : new int[] {-1, 5, MIN, MAX}) {
       Due.is("mean(" + bad + ", 0)", x.mean(bad, 0), NO);
     }
