@@ -1,5 +1,8 @@
 /** Compares answers with those that are due, prints the others, and counts both. */
 final class Due {
+  /** What is tested now, told ahead of an answer that is not the one due. */
+  static String about = "";
+
   private static int passed = 0;
   private static int failed = 0;
 
@@ -10,12 +13,17 @@ final class Due {
       passed++;
     } else {
       failed++;
-      System.out.println("  " + call + " answered " + got + ", due is " + want);
+      System.out.println("  " + about + call + " answered " + got + ", due is " + want);
     }
   }
 
   static void holds(String what, boolean is) {
     is(what, is ? 1 : 0, 1);
+  }
+
+  /** How many answers were compared. */
+  static int compared() {
+    return passed + failed;
   }
 
   /** Feeds a text sign by sign: what the last feed answered. */
