@@ -3,15 +3,12 @@ import java.lang.reflect.Constructor;
 import java.lang.reflect.Field;
 import java.lang.reflect.Method;
 import java.lang.reflect.Modifier;
-import java.nio.file.Files;
 import java.nio.file.Path;
 import java.util.ArrayList;
 import java.util.List;
 import java.util.TreeSet;
-import java.util.regex.Matcher;
-import java.util.regex.Pattern;
 
-/** What of ../shared/LANGUAGE.md can be seen from the source and the class itself. */
+/** The rules of ../shared/LANGUAGE.md: of the source by SourceRules, of the face by the class itself. */
 public final class LanguageTest {
   private static final String FACE =
       "int hater(int,int,int) int of(int,int) int hate(int,int,int) int lead(int,int)"
@@ -24,36 +21,11 @@ public final class LanguageTest {
           + " int tape(int,int,int) int item(int,int,long) long read(int,int)"
           + " int shift(int,int,int,int,int)";
 
-  private static final String[] FORBIDDEN = {
-    "\\b(throw|throws|try|catch|finally|synchronized|assert|native|volatile|transient|package)\\b",
-    "->|::|@|\\bvar\\b|\\.\\.\\.",
-    "\\b(equals|hashCode|toString|compareTo)\\s*\\(\\s*(Object|\\))",
-    "\\b(Exception|Error|Thread|Random|Runtime|Object|Class|Collections|Objects|Stream|Optional|Map|Set)\\b",
-    "\\bSystem\\.(?!arraycopy\\b)",
-    "\\bArrays\\.(?!copyOf\\b|copyOfRange\\b|fill\\b)",
-    "\\bMath\\.\\w+Exact\\b|\\bMath\\.(random|sqrt|pow|floor|ceil|round)\\b",
-    "\\bimport (?!java\\.util\\.(ArrayList|List|Arrays);)",
-    "\\bstatic\\s*\\{",
-    "\\[\\]\\[\\]\\[\\]",
-    "\"\\s*\\+|\\+\\s*\"",
-    "[^\\x00-\\x7f]",
-  };
-
   public static void main(String[] args) throws IOException {
-    String source = Files.readString(Path.of("src/main/java/WassailEnemies.java"));
-    String code = withoutComments(source);
-    for (String pattern : FORBIDDEN) {
-      Matcher found = Pattern.compile(pattern).matcher(code);
-      Due.holds("no " + pattern + " in the source" + (found.find() ? ": " + found.group() : ""), !found.reset().find());
-    }
+    SourceRules.all(Path.of("src/main/java/WassailEnemies.java"));
     face();
     inside();
-    methods(code);
     Due.end("LanguageTest");
-  }
-
-  private static String withoutComments(String source) {
-    return source.replaceAll("(?s)/\\*.*?\\*/", "").replaceAll("//[^\n]*", "");
   }
 
   private static String signature(Method method) {
@@ -95,38 +67,9 @@ public final class LanguageTest {
   }
 
   private static void inside() {
-    Class<?>[] classes = WassailEnemies.class.getDeclaredClasses();
-    Due.holds("some twelve classes", classes.length + 1 <= 12);
-    for (Class<?> type : classes) {
+    for (Class<?> type : WassailEnemies.class.getDeclaredClasses()) {
       Due.holds(type + " is static", Modifier.isStatic(type.getModifiers()));
       Due.holds(type + " is private", Modifier.isPrivate(type.getModifiers()));
-      fields(type);
     }
-    fields(WassailEnemies.class);
-  }
-
-  private static void fields(Class<?> type) {
-    int own = 0;
-    for (Field field : type.getDeclaredFields()) {
-      boolean constant = Modifier.isStatic(field.getModifiers());
-      own += constant ? 0 : 1;
-      Due.holds(field + " is no static state", !constant || Modifier.isFinal(field.getModifiers()));
-    }
-    Due.holds(type + " has some twenty fields", own <= 20);
-    for (Method method : type.getDeclaredMethods()) {
-      Due.holds(method + " takes seven parameters at most", method.getParameterCount() <= 7);
-    }
-  }
-
-  /** The lines of each method, by how its head and its last brace are set in. */
-  private static void methods(String code) {
-    Matcher method = Pattern.compile("(?m)^( {2}| {4})(?! )[^\n=;]*\\([^\n;]*\\) \\{\n(?s:.*?)^\\1\\}").matcher(code);
-    int seen = 0;
-    while (method.find()) {
-      seen++;
-      String head = method.group().substring(0, method.group().indexOf('\n')).trim();
-      Due.holds(head + " is short", method.group().split("\n").length <= 60);
-    }
-    Due.holds("methods were seen: " + seen, seen > 80);
   }
 }
